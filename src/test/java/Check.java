@@ -56,14 +56,19 @@ final class Check {
     /** Puts these bytes on an empty tape. */
     static void feed(PaneStreet x, int... bytes) {
         x.end(0);
-        for (int i = 0; i < bytes.length; i += 20) {
-            int[] five = new int[5];
-            for (int j = 0; j < 20 && i + j < bytes.length; j++) {
-                five[j / 4] |= bytes[i + j] << 24 - 8 * (j % 4);
-            }
-            x.feed(five[0], five[1], five[2], five[3], five[4]);
+        for (int[] n : fives(bytes)) {
+            x.feed(n[0], n[1], n[2], n[3], n[4]);
         }
         x.end(bytes.length);
+    }
+
+    /** The numbers to be fed for some bytes, five with each feed. */
+    static int[][] fives(int... bytes) {
+        int[][] fives = new int[(bytes.length + 19) / 20][5];
+        for (int i = 0; i < bytes.length; i++) {
+            fives[i / 20][i % 20 / 4] |= bytes[i] << 24 - 8 * (i % 4);
+        }
+        return fives;
     }
 
     static PaneStreet streetOf(String text) {

@@ -100,12 +100,8 @@ public final class ModelTest {
     private void bytes(int... bytes) {
         Check.feed(x, bytes);
         m.end(0);
-        for (int i = 0; i < bytes.length; i += 20) {
-            int[] five = new int[5];
-            for (int j = 0; j < 20 && i + j < bytes.length; j++) {
-                five[j / 4] |= bytes[i + j] << 24 - 8 * (j % 4);
-            }
-            m.feed(five[0], five[1], five[2], five[3], five[4]);
+        for (int[] n : Check.fives(bytes)) {
+            m.feed(n[0], n[1], n[2], n[3], n[4]);
         }
         m.end(bytes.length);
     }

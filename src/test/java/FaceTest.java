@@ -1,0 +1,129 @@
+import java.io.IOException;
+import java.lang.reflect.Constructor;
+import java.lang.reflect.Field;
+import java.lang.reflect.Member;
+import java.lang.reflect.Method;
+import java.lang.reflect.Modifier;
+import java.nio.file.Files;
+import java.nio.file.Path;
+import java.util.Arrays;
+import java.util.Set;
+import java.util.TreeSet;
+import java.util.regex.Matcher;
+import java.util.regex.Pattern;
+import java.util.stream.Collectors;
+
+/** The public face as the document tells it, and rules of LANGUAGE.md that can be seen from outside. */
+public final class FaceTest {
+    private static final Path SOURCE = Path.of("src/main/java/PaneStreet.java");
+    private static final Path DOCUMENT = Path.of("../shared/DOC.md");
+    private static final Pattern METHOD =
+        Pattern.compile("^    public (int|boolean|void) (\\w+)\\(([^)]*)\\)(?: throws ([^;]*))?;", Pattern.MULTILINE);
+
+    private FaceTest() {
+    }
+
+    public static void main(String[] args) throws IOException {
+        faceOfTheDocument();
+        nothingElseIsSeen();
+        sourceKeepsToTheRules();
+        Check.end();
+    }
+
+    private static void faceOfTheDocument() throws IOException {
+        Check.begin("the face");
+        Set<String> want = new TreeSet<>();
+        Matcher m = METHOD.matcher(Files.readString(DOCUMENT));
+        while (m.find()) {
+            String types = m.group(3).replaceAll("(int|boolean) \\w+", "$1").replace(" ", "");
+            String thrown = m.group(4) == null ? "" : m.group(4).replace(" ", "");
+            want.add(m.group(1) + " " + m.group(2) + "(" + types + ") " + thrown);
+        }
+        Set<String> got = new TreeSet<>();
+        for (Method method : PaneStreet.class.getDeclaredMethods()) {
+            if (Modifier.isPublic(method.getModifiers())) {
+                String types = Arrays.stream(method.getParameterTypes()).map(Class::getSimpleName)
+                    .collect(Collectors.joining(","));
+                String thrown = Arrays.stream(method.getExceptionTypes()).map(Class::getSimpleName)
+                    .collect(Collectors.joining(","));
+                got.add(method.getReturnType() + " " + method.getName() + "(" + types + ") " + thrown);
+            }
+        }
+        Check.due("methods", got, want);
+        Check.due("how many", got.size(), 54);
+        int modifiers = PaneStreet.class.getModifiers();
+        Check.due("public and final", Modifier.isPublic(modifiers) && Modifier.isFinal(modifiers), true);
+        Constructor<?>[] made = PaneStreet.class.getDeclaredConstructors();
+        Check.due("one constructor", made.length == 1 && Modifier.isPublic(made[0].getModifiers()), true);
+    }
+
+    private static void nothingElseIsSeen() {
+        Check.begin("nothing else is seen");
+        Set<String> face = new TreeSet<>();
+        for (Method method : PaneStreet.class.getDeclaredMethods()) {
+            if (Modifier.isPublic(method.getModifiers())) {
+                face.add(method.getName());
+            } else {
+                isPrivate(method);
+            }
+        }
+        for (Field field : PaneStreet.class.getDeclaredFields()) {
+            if (!field.getName().equals("NONE")) {
+                isPrivate(field);
+            }
+        }
+        Class<?>[] inner = PaneStreet.class.getDeclaredClasses();
+        Check.due("some twelve classes", inner.length + 1 <= 12, true);
+        for (Class<?> one : inner) {
+            int modifiers = one.getModifiers();
+            Check.due(one + " is private and static", Modifier.isPrivate(modifiers) && Modifier.isStatic(modifiers), true);
+            for (Method method : one.getDeclaredMethods()) {
+                Check.due(method + " has no name of the face", face.contains(method.getName()), false);
+                Check.due(method + " takes seven at most", method.getParameterCount() <= 7, true);
+            }
+            for (Field field : one.getDeclaredFields()) {
+                if (Modifier.isStatic(field.getModifiers())) {
+                    Check.due(field + " is final", Modifier.isFinal(field.getModifiers()), true);
+                }
+            }
+        }
+        for (Method method : PaneStreet.class.getDeclaredMethods()) {
+            if (!Modifier.isPublic(method.getModifiers())) {
+                Check.due(method + " has no name of the face", face.contains(method.getName()), false);
+            }
+        }
+    }
+
+    private static void isPrivate(Member member) {
+        Check.due(member.getName() + " is private", Modifier.isPrivate(member.getModifiers()), true);
+    }
+
+    private static void sourceKeepsToTheRules() throws IOException {
+        Check.begin("the source");
+        String source = Files.readString(SOURCE);
+        Check.due("signs 1 to 127", source.chars().allMatch(c -> c > 0 && c < 128), true);
+        String code = source.replaceAll("(?s)/\\*.*?\\*/", "").replaceAll("//[^\n]*", "").replaceAll("\"[^\"]*\"", "\"\"");
+        for (String word : new String[] {"catch", "finally", "try", "synchronized", "assert", "instanceof", "package",
+            "->", "::", "float", "double", "System.out", "Object", "ordinal", "Exact", "new Random", "nanoTime"}) {
+            boolean stands = Pattern.compile("(?<!\\w)" + Pattern.quote(word) + "(?!\\w)").matcher(code).find();
+            Check.due("no " + word, stands, false);
+        }
+        Matcher imports = Pattern.compile("import ([\\w.]+);").matcher(code);
+        Set<String> imported = new TreeSet<>();
+        while (imports.find()) {
+            imported.add(imports.group(1));
+        }
+        Check.due("imports", imported, Set.of("java.util.Arrays", "java.util.NoSuchElementException"));
+        int longest = 0;
+        int begun = 0;
+        String[] lines = source.split("\n");
+        for (int i = 0; i < lines.length; i++) {
+            if (lines[i].matches("    (    )?\\S.*\\).* \\{") && !lines[i].contains(" class ")) {
+                begun = i;
+            } else if (lines[i].matches("    (    )?\\}")) {
+                longest = Math.max(longest, i - begun);
+            }
+        }
+        Check.due("methods are short (" + longest + ")", longest <= 60, true);
+    }
+}
