@@ -107,8 +107,9 @@ public final class ModelTest {
     }
 
     private int some(int count) {
-        int odd = r.nextInt(40);
-        return odd == 0 ? -1 - r.nextInt(3) : odd == 1 ? count + r.nextInt(300) : r.nextInt(Math.max(count, 1));
+        int[] odds = {-1 - r.nextInt(3), count, count + r.nextInt(300), Integer.MIN_VALUE, Integer.MAX_VALUE};
+        int odd = r.nextInt(100);
+        return odd < odds.length ? odds[odd] : r.nextInt(Math.max(count, 1));
     }
 
     private int pane() {

@@ -164,6 +164,12 @@ public final class PromiseTest {
         fault("pane;;", 5);
         fault("Pane", 0);
         fault("panes", 0);
+        fault("panez", 0);
+        fault("apane", 0);
+        fault("pane`", 4);
+        fault("pane{", 4);
+        fault("fog :", 4);
+        fault("fog /", 4);
         fault("pane\t", 4);
         fault("pane oil", 8);
         fault("pane oil 1000", 9);
@@ -272,6 +278,9 @@ public final class PromiseTest {
         lawFault("pass if oil<3<4", 13);
         lawFault("pass if oil+<3", 12);
         lawFault("pass if +3<4", 8);
+        lawFault("pass if 1+owned<3", 10);
+        lawFault("pass if 1<misty", 10);
+        lawFault("pass if owned+1<3", 13);
         lawFault("pass if 1000<3", 8);
         lawFault("pass if 3<0999", 10);
         lawFault("pass if (owned", 14);
@@ -349,6 +358,10 @@ public final class PromiseTest {
         law(x, "kind 1 if likes>6;kind 2 if not owned");
         due("likes 7", x.will(2, 0), 8);
         due("likes 5 without an owner", x.will(2, 1), 7);
+        law(x, "kind 1 if walker>1;kind 2 if walker<1");
+        due("walker 2", x.will(2, 1), 6);
+        due("walker 1", x.will(1, 1), 5);
+        due("walker 0", x.will(0, 1), 7);
 
         Check.begin("11 lights");
         law(x, "");
@@ -456,6 +469,9 @@ public final class PromiseTest {
         due("of several the least", t.walker(0, 5), 1);
         t.strike(1);
         due("his own burns", t.walker(0, 5), -1);
+        PaneStreet poor = Check.streetOf("pane;pane;walker at 0 taper 1;walker at 0 taper 1 owns 1;way 0 1");
+        due("he would light it", poor.lights(0, 1), true);
+        due("but owns none", poor.walker(0, 5), -1);
 
         Check.begin("8 part");
         PaneStreet p = Check.streetOf("pane;pane;pane;walker at 0 taper 9;walker at 1 taper 9;walker at 2 taper 0;way 0 1");
@@ -473,6 +489,7 @@ public final class PromiseTest {
         Check.throwing("both one", ARGUMENT, () -> x.likes(1, 1));
         Check.throwing("no walker", INDEX, () -> x.likes(3, 3));
         Check.throwing("no other", INDEX, () -> x.likes(0, -1));
+        Check.throwing("no first", INDEX, () -> x.likes(3, 0));
     }
 
     private static void hours() {
@@ -653,6 +670,7 @@ public final class PromiseTest {
         due("not open", n.isOpen(0, 1), false);
         Check.throwing("both one", ARGUMENT, () -> n.isOpen(1, 1));
         Check.throwing("no pane", INDEX, () -> n.isOpen(0, 3));
+        Check.throwing("no first pane", INDEX, () -> n.isOpen(3, 0));
     }
 
     private static void ways() {
@@ -662,6 +680,7 @@ public final class PromiseTest {
         due("to itself", x.far(2, 2), 0);
         due("none", x.far(0, 4), -1);
         Check.throwing("no pane", INDEX, () -> x.far(0, 5));
+        Check.throwing("no first pane", INDEX, () -> x.far(-1, 0));
         PaneStreet nine = new PaneStreet();
         street(nine, "pane;pane;pane;pane;pane;pane;pane;pane;pane");
         for (int p = 0; p < 8; p++) {
@@ -694,6 +713,8 @@ public final class PromiseTest {
         due("one pane", nine.closed(3, 3), -1);
         due("no far", x.closed(0, 4), 0);
         Check.throwing("no pane", INDEX, () -> x.closed(5, 5));
+        Check.throwing("no first pane", INDEX, () -> x.closed(5, 0));
+        Check.throwing("no second pane", INDEX, () -> x.closed(0, 5));
         due("all with all", Check.streetOf("pane;pane;pane;pane;way 0 1;way 0 2;way 0 3;way 1 2;way 1 3;way 2 3").closed(1, 3), 3);
         due("by its waist", Check.streetOf("pane;pane;pane;pane;pane;way 0 1;way 0 2;way 1 3;way 2 3;way 3 4").closed(0, 4), 1);
 
@@ -892,6 +913,8 @@ public final class PromiseTest {
         due("neither", learnt(x, 0, 2, 2), "throws IllegalArgumentException");
         due("no walker", learnt(x, 3, 2, 1), "throws IllegalArgumentException");
         due("no pane", learnt(x, 0, 4, 1), "throws IllegalArgumentException");
+        due("no pane of another", learnt(x, 1, 4, 1), "throws IllegalArgumentException");
+        due("a great pane", learnt(x, 1, 255, 1), "throws IllegalArgumentException");
         due("half a row", learnt(x, 0, 2), "throws IllegalArgumentException");
         int[] rows = new int[39];
         for (int i = 1; i < 39; i += 3) {
@@ -981,6 +1004,7 @@ public final class PromiseTest {
         Check.begin("44 crowd");
         due("where three are", x.crowd(), 1);
         due("of several the least", two.crowd(), 0);
+        due("the first of all counts", Check.streetOf("pane;pane;walker at 1 taper 0;walker at 1 taper 0;walker at 0 taper 0").crowd(), 1);
         due("none without walkers", g.crowd(), -1);
         Check.begin("45 alike");
         due("0 and 3", x.alike(), 1);
@@ -1012,6 +1036,7 @@ public final class PromiseTest {
         due("now", Check.streetOf("pane").out(), 0);
         due("never", Check.streetOf("pane oil 61 lit").out(), -1);
         due("at last", Check.streetOf("pane oil 60 lit").out(), 60);
+        due("when, without mist", x.pane(3, 5), 3);
 
         Check.begin("23 spoon");
         due("0 is dark for 3 hours", x.spoon(), 0);
@@ -1025,6 +1050,8 @@ public final class PromiseTest {
         due("by hour 60", last.spoon(), 0);
         last.oil(0, 1);
         due("by hour 61", last.spoon(), -1);
+        due("without mist he comes in time", Check.streetOf("pane oil 99;pane oil 99;walker at 0 taper 9 owns 0 heads 1;"
+            + "walker at 0 taper 0 owns 1;walker at 0 taper 9;way 0 1;fog 100").spoon(), -1);
 
         Check.begin("47 trial");
         due("in mist he stays", x.trial(3, false), 0b0100);
@@ -1039,21 +1066,34 @@ public final class PromiseTest {
         Check.begin("48 span");
         due("the least", x.span(3, false), 1);
         due("the greatest", x.span(3, true), 1);
-        int least = 9;
-        int most = 0;
-        PaneStreet s = Check.streetOf("pane;pane;pane;pane;pane;walker at 0 taper 9 heads 4;way 0 1;way 1 2;way 2 3;way 3 4;fog 50");
-        for (int seed = 1; seed <= 6; seed++) {
-            s.seed(seed);
-            int lamps = Integer.bitCount(s.trial(4, false));
-            least = Math.min(least, lamps);
-            most = Math.max(most, lamps);
+        for (int fog = 5; fog < 100; fog += 5) {
+            spanByTrials(fog);
         }
-        due("as by trials", s.span(4, false), least);
-        due("as by trials, the most", s.span(4, true), most);
-        due("they are unlike", least < most, true);
-        due("the seed stays", s.seed(1), 6);
+        PaneStreet s = Check.streetOf(LINE + ";fog 50");
+        s.seed(7);
+        s.span(60, true);
+        due("the seed stays", s.seed(1), 7);
         Check.throwing("61", ARGUMENT, () -> s.span(61, true));
         Check.throwing("-1", ARGUMENT, () -> s.span(-1, true));
+    }
+
+    /** The lamps that are lit tell how often he went on. */
+    private static void spanByTrials(int fog) {
+        PaneStreet s = Check.streetOf("pane;pane;pane;pane;pane;pane;pane;walker at 0 taper 9 heads 6;"
+            + "way 0 1;way 1 2;way 2 3;way 3 4;way 4 5;fog " + fog);
+        s.way(5, 6, true);
+        for (int n = 0; n <= 6; n++) {
+            int least = 9;
+            int most = 0;
+            for (int seed = 1; seed <= 6; seed++) {
+                s.seed(seed);
+                int lamps = Integer.bitCount(s.trial(n, false));
+                least = Math.min(least, lamps);
+                most = Math.max(most, lamps);
+            }
+            due("the least by fog " + fog + " in hours " + n, s.span(n, false), least);
+            due("the most by fog " + fog + " in hours " + n, s.span(n, true), most);
+        }
     }
 
     private static void logs() {
@@ -1106,8 +1146,17 @@ public final class PromiseTest {
         due("taper", x.walker(0, 1), 2);
         due("likes", x.likes(2, 0), 7);
         due("log", x.count(11), 0);
+        due("lit", x.count(9), 0);
         due("seed", x.seed(1), 1);
         due("no more", x.undo(), false);
+        PaneStreet two = Check.streetOf(TWO);
+        two.strike(0);
+        two.strike(1);
+        two.undo();
+        due("the row that was", two.log(0, 3), 1);
+        due("one row", two.log(1, 3), -2);
+        due("his own lit", two.walker(0, 3), 1);
+        due("not the other's", two.walker(1, 3), 0);
         x.seed(5);
         due("telling a seed is no act", x.count(12), 0);
         x.heads(0, 2);
