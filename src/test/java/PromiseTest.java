@@ -1066,9 +1066,14 @@ public final class PromiseTest {
         Check.begin("48 span");
         due("the least", x.span(3, false), 1);
         due("the greatest", x.span(3, true), 1);
-        for (int fog = 5; fog < 100; fog += 5) {
+        for (int fog = 1; fog < 100; fog++) {
             spanByTrials(fog);
         }
+        PaneStreet sixth = Check.streetOf("pane;pane;pane;pane;pane;pane;walker at 0 taper 1;walker at 1 taper 1;"
+            + "walker at 2 taper 1;walker at 3 taper 1;walker at 4 taper 1;walker at 5 taper 1;fog 27",
+            "pass if hour<pane or hour>pane or misty and pane>1 or not misty and pane<2");
+        due("all six by seed 6 alone", sixth.span(6, true), 6);
+        due("two by seed 1 alone", sixth.span(6, false), 2);
         PaneStreet s = Check.streetOf(LINE + ";fog 50");
         s.seed(7);
         s.span(60, true);
