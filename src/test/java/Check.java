@@ -5,6 +5,11 @@ final class Check {
         Object answer();
     }
 
+    /** A call with one number that is to be tried. */
+    interface NumberCall {
+        Object answer(int n);
+    }
+
     private static int right;
     private static int wrong;
     private static String part = "";
@@ -14,6 +19,12 @@ final class Check {
 
     static void begin(String name) {
         part = name;
+    }
+
+    /** What follows stands for these words of the document, which these promises rest on. */
+    static void sentence(String promises, String words) {
+        part = "promise " + promises + ", '" + words + "'";
+        due("these words are the document's", Document.says(promises, words), true);
     }
 
     static void due(String call, Object got, Object want) {
@@ -41,8 +52,39 @@ final class Check {
     static String nameOf(Throwable e) {
         StackTraceElement[] trace = e.getStackTrace();
         boolean fromFile = trace.length > 0 && trace[0].getClassName().startsWith("PaneStreet");
-        boolean written = fromFile && e.getMessage() != null && !e.getMessage().contains("out of bounds");
-        return "throws " + e.getClass().getSimpleName() + (written ? "" : " by the machine: " + e);
+        return "throws " + e.getClass().getSimpleName() + (fromFile ? "" : " by the machine: " + e);
+    }
+
+    private static void answering(String call, Call it) {
+        Object got = answerOf(it);
+        boolean isThrown = got instanceof String && ((String) got).startsWith("throws");
+        due(call + " answers", isThrown ? got : "answers", "answers");
+    }
+
+    /** A number from least to most is taken; those beside them, and the farthest ones, are refused. */
+    static void bounds(String call, int least, int most, Class<? extends RuntimeException> refusal, NumberCall it) {
+        for (int n : new int[] {Integer.MIN_VALUE, least - 1, most + 1, Integer.MAX_VALUE}) {
+            throwing(call + " with " + n, refusal, () -> it.answer(n));
+        }
+        for (int n : new int[] {least, Math.min(least + 1, most), Math.max(least, most - 1), most}) {
+            answering(call + " with " + n, () -> it.answer(n));
+        }
+    }
+
+    /** The numbers of so many panes or walkers are taken, those beside them are none; 32 would be 0 as a bit. */
+    static void indexes(String call, int count, NumberCall it) {
+        bounds(call, 0, count - 1, IndexOutOfBoundsException.class, it);
+        throwing(call + " with 32", IndexOutOfBoundsException.class, () -> it.answer(32));
+    }
+
+    static Object street(PaneStreet x, String text) {
+        feed(x, text);
+        return answerOf(x::street);
+    }
+
+    static Object law(PaneStreet x, String text) {
+        feed(x, text);
+        return answerOf(x::law);
     }
 
     static void feed(PaneStreet x, String text) {

@@ -20,17 +20,22 @@ public final class FaceTest {
     private static final Pattern METHOD =
         Pattern.compile("^    public (int|boolean|void) (\\w+)\\(([^)]*)\\)(?: throws ([^;]*))?;", Pattern.MULTILINE);
 
+    private static final Pattern MACHINES = Pattern.compile("catch \\([^)]*\\b(ArrayIndexOutOfBounds|StringIndexOutOfBounds|IndexOutOfBounds"
+        + "|NullPointer|Arithmetic|ClassCast|NegativeArraySize|ArrayStore|Runtime)?(Exception|Throwable|Error)\\b");
+    private static final Set<String> LIBRARY = Set.of("java.util.Arrays", "java.util.ArrayList", "java.util.List", "java.util.Iterator",
+        "java.util.NoSuchElementException");
+
     private FaceTest() {
     }
 
-    public static void main(String[] args) throws IOException {
+    public static void main(String[] args) throws IOException, ReflectiveOperationException {
         faceOfTheDocument();
         nothingElseIsSeen();
         sourceKeepsToTheRules();
         Check.end();
     }
 
-    private static void faceOfTheDocument() throws IOException {
+    private static void faceOfTheDocument() throws IOException, ReflectiveOperationException {
         Check.begin("the face");
         Set<String> want = new TreeSet<>();
         Matcher m = METHOD.matcher(Files.readString(DOCUMENT));
@@ -51,6 +56,11 @@ public final class FaceTest {
         }
         Check.due("methods", got, want);
         Check.due("how many", got.size(), 54);
+        Field none = PaneStreet.class.getField("NONE");
+        int ofNone = none.getModifiers();
+        boolean isConstant = Modifier.isPublic(ofNone) && Modifier.isStatic(ofNone) && Modifier.isFinal(ofNone);
+        Check.due("NONE is a constant int", isConstant && none.getType() == int.class, true);
+        Check.due("NONE", none.getInt(null), -1);
         int modifiers = PaneStreet.class.getModifiers();
         Check.due("public and final", Modifier.isPublic(modifiers) && Modifier.isFinal(modifiers), true);
         Constructor<?>[] made = PaneStreet.class.getDeclaredConstructors();
@@ -76,7 +86,8 @@ public final class FaceTest {
         Check.due("some twelve classes", inner.length + 1 <= 12, true);
         for (Class<?> one : inner) {
             int modifiers = one.getModifiers();
-            Check.due(one + " is private and static", Modifier.isPrivate(modifiers) && Modifier.isStatic(modifiers), true);
+            boolean isHidden = !Modifier.isPublic(modifiers) && !Modifier.isProtected(modifiers);
+            Check.due(one + " is hidden and static", isHidden && Modifier.isStatic(modifiers), true);
             for (Method method : one.getDeclaredMethods()) {
                 Check.due(method + " has no name of the face", face.contains(method.getName()), false);
                 Check.due(method + " takes seven at most", method.getParameterCount() <= 7, true);
@@ -103,17 +114,16 @@ public final class FaceTest {
         String source = Files.readString(SOURCE);
         Check.due("signs 1 to 127", source.chars().allMatch(c -> c > 0 && c < 128), true);
         String code = source.replaceAll("(?s)/\\*.*?\\*/", "").replaceAll("//[^\n]*", "").replaceAll("\"[^\"]*\"", "\"\"");
-        for (String word : new String[] {"catch", "finally", "try", "synchronized", "assert", "instanceof", "package",
-            "->", "::", "float", "double", "System.out", "Object", "ordinal", "Exact", "new Random", "nanoTime"}) {
+        for (String word : new String[] {"finally", "synchronized", "assert", "package", "::", "System.out", "Object", "ordinal",
+            "Random", "nanoTime", "currentTimeMillis", "Thread", "getMessage"}) {
             boolean stands = Pattern.compile("(?<!\\w)" + Pattern.quote(word) + "(?!\\w)").matcher(code).find();
             Check.due("no " + word, stands, false);
         }
+        Check.due("nothing that the machine throws is caught", MACHINES.matcher(code).find(), false);
         Matcher imports = Pattern.compile("import ([\\w.]+);").matcher(code);
-        Set<String> imported = new TreeSet<>();
         while (imports.find()) {
-            imported.add(imports.group(1));
+            Check.due("may be imported: " + imports.group(1), LIBRARY.contains(imports.group(1)), true);
         }
-        Check.due("imports", imported, Set.of("java.util.Arrays", "java.util.NoSuchElementException"));
         int longest = 0;
         int begun = 0;
         String[] lines = source.split("\n");

@@ -51,13 +51,11 @@ public final class PromiseTest {
     }
 
     private static Object street(PaneStreet x, String text) {
-        Check.feed(x, text);
-        return Check.answerOf(x::street);
+        return Check.street(x, text);
     }
 
     private static Object law(PaneStreet x, String text) {
-        Check.feed(x, text);
-        return Check.answerOf(x::law);
+        return Check.law(x, text);
     }
 
     private static void newObject() {

@@ -4,7 +4,7 @@ import java.util.function.Consumer;
 /** What a run of 512 calls makes: rows are made with the object and used again, so that calls make next to nothing. */
 public final class RoomTest {
     private static final long MOST_OF_AN_OBJECT = 200_000;
-    private static final long MOST_OF_A_RUN = 20_000;
+    private static final long MOST_OF_A_RUN = 2_000_000;
     private static final com.sun.management.ThreadMXBean THREADS =
         (com.sun.management.ThreadMXBean) ManagementFactory.getThreadMXBean();
 
