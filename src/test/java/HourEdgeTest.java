@@ -84,7 +84,8 @@ public final class HourEdgeTest {
         no.way(1, 2, true);
         no.hours(1);
         due("when a way is opened, he goes", no.walker(0, 0), 1);
-        PaneStreet two = Check.streetOf("pane;pane;pane;pane;pane;walker at 0 taper 0 heads 4;way 0 3;way 0 2;way 0 1;way 3 4;way 2 4");
+        PaneStreet two = Check.streetOf("pane;pane;pane;pane;pane;walker at 0 taper 0 heads 4;way 0 3;way 0 2;way 0 1;way "
+            + "3 4;way 2 4");
         two.hours(1);
         due("of several the least", two.walker(0, 0), 2);
         PaneStreet far = Check.streetOf("pane;pane;pane;pane;walker at 3 taper 0 heads 2;way 3 0;way 0 1;way 1 2;way 3 2");
@@ -153,7 +154,8 @@ public final class HourEdgeTest {
         sentence("13", "(c) each WALKER, by numbers: if he LIGHTS the LAMP of the PANE where he is (by all as it is then): it is "
             + "BURNING, DARK 0, TAPER is 1 less, LIT 1 more (999 at most), and its OWNER, if there is one, LIKES him 1 more "
             + "(9 at most);");
-        PaneStreet x = Check.streetOf("pane;pane;walker at 1 taper 1 owns 0;walker at 0 taper 1;walker at 0 taper 1;likes 0 1 3", "pass if hour<1");
+        PaneStreet x = Check.streetOf("pane;pane;walker at 1 taper 1 owns 0;walker at 0 taper 1;walker at 0 taper 1;likes "
+            + "0 1 3", "pass if hour<1");
         x.hours(1);
         due("nobody in the first hour", x.bright(), 0);
         due("dark", x.pane(0, 3), 1);
@@ -172,9 +174,11 @@ public final class HourEdgeTest {
             y.hours(1);
             due("likes 1 more than " + likes, y.likes(0, 1), Math.min(likes + 1, 9));
         }
-        PaneStreet thanks = Check.streetOf("pane;pane;walker at 1 taper 1 owns 0;walker at 0 taper 1 owns 1;likes 1 0 4;likes 0 1 5");
+        PaneStreet thanks = Check.streetOf("pane;pane;walker at 1 taper 1 owns 0;walker at 0 taper 1 owns 1;likes 1 0 4;"
+            + "likes 0 1 5");
         due("by likes of 1 more that came ahead of him in this hour", thanks.hours(1), 2);
-        PaneStreet later = Check.streetOf("pane;pane;walker at 1 taper 1 owns 0;walker at 0 taper 1 owns 1;likes 1 0 5;likes 0 1 4");
+        PaneStreet later = Check.streetOf("pane;pane;walker at 1 taper 1 owns 0;walker at 0 taper 1 owns 1;likes 1 0 5;"
+            + "likes 0 1 4");
         due("not by what comes behind him", later.hours(1), 1);
         due("but an hour later", later.hours(1), 1);
         for (int will = 4; will <= 6; will++) {
@@ -223,7 +227,8 @@ public final class HourEdgeTest {
     }
 
     private static void draws() {
-        sentence("13, 51", "DRAW: SEED is 1103515245 times SEED and 12345, as an int that goes round; bits 16 to 30 (SEED 1 at first).");
+        sentence("13, 51", "DRAW: SEED is 1103515245 times SEED and 12345, as an int that goes round; bits 16 to 30 (SEED "
+            + "1 at first).");
         PaneStreet x = new PaneStreet();
         x.hours(1);
         due("from 1", x.seed(0), 1103527590);
@@ -302,7 +307,8 @@ public final class HourEdgeTest {
         sentence("13, 15", "he lights by hand the LAMP where he is (WILL and PASSING BY are no matter, else as in (c); one without "
             + "an OWNER, too; HEADS stays);");
         for (int likes : new int[] {0, 4, 8, 9}) {
-            PaneStreet x = Check.streetOf("pane;walker at 0 taper 0 owns 0;walker at 0 taper 2 heads 0;likes 1 0 0;likes 0 1 " + likes,
+            PaneStreet x = Check.streetOf("pane;walker at 0 taper 0 owns 0;walker at 0 taper 2 heads 0;likes 1 0 0;likes "
+                + "0 1 " + likes,
                 "pass;cold 20");
             x.hours(1);
             x.heads(1, 0);
@@ -338,7 +344,8 @@ public final class HourEdgeTest {
     }
 
     private static void giving() {
-        sentence("13, 17, 18, 19, 20", "OIL is given to a LAMP (99 at most); a TAPER is bought (99 at most); LIKES are told; a WAY is "
+        sentence("13, 17, 18, 19, 20", "OIL is given to a LAMP (99 at most); a TAPER is bought (99 at most); LIKES are "
+            + "told; a WAY is "
             + "opened, or closed.");
         PaneStreet x = Check.streetOf("pane oil 97;pane;walker at 0 taper 97;walker at 0 taper 0");
         due("98 of oil", x.oil(0, 1), 98);
@@ -367,7 +374,8 @@ public final class HourEdgeTest {
     }
 
     private static void theLog() {
-        sentence("49, 50, 55", "THE LOG: in the order in which it came about, the latest 60 times that a LAMP was lit (0 in an HOUR, "
+        sentence("49, 50, 55", "THE LOG: in the order in which it came about, the latest 60 times that a LAMP was lit (0 "
+            + "in an HOUR, "
             + "1 by hand), burnt out (2), was snuffed (3): NIGHT, HOUR, 0 to 3, the PANE, the WALKER (none of 2).");
         PaneStreet x = lineOfNine("walker at 8 taper 9 owns 0;walker at 8 taper 0;walker at 7 taper 0;walker at 0 taper 9;"
             + "walker at 7 taper 0;walker at 7 taper 9;hour 23;night 999");

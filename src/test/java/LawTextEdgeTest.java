@@ -267,7 +267,8 @@ public final class LawTextEdgeTest {
             Check.law(x, "kind 10 if likes<" + (likes + 1) + ";kind 20 if likes<" + likes);
             due("as the law sees it", x.will(0, 1), likes + 10);
         }
-        PaneStreet free = Check.streetOf("pane;walker at 0 taper 1;walker at 0 taper 1;likes 0 1 0", "kind 1 if likes>4;kind 2 if likes>5");
+        PaneStreet free = Check.streetOf("pane;walker at 0 taper 1;walker at 0 taper 1;likes 0 1 0", "kind 1 if likes>4;"
+            + "kind 2 if likes>5");
         due("without an owner", free.will(0, 0), 6);
 
         sentence("10", "owned: it has an OWNER; misty: there is MIST.");

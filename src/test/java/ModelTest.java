@@ -1,6 +1,7 @@
 import java.lang.reflect.InvocationTargetException;
 import java.lang.reflect.Method;
 import java.util.ArrayList;
+import java.util.Arrays;
 import java.util.Collections;
 import java.util.List;
 import java.util.Random;
@@ -14,11 +15,15 @@ public final class ModelTest {
         "999", "0012", "lit"};
     private static final String[] PARTS = {"walker", "pane", "oil", "dark", "taper", "likes", "hour"};
 
+    private static final int MOST_CALLS = 512;
+    private static final int LONGEST_STEP = 30;
+
     private final Random r;
     private final PaneStreet x = new PaneStreet();
     private final Model m = new Model();
     private final List<String> told = new ArrayList<>();
     private boolean agree = true;
+    private int calls;
 
     private ModelTest(long seed) {
         r = new Random(seed);
@@ -46,8 +51,8 @@ public final class ModelTest {
             text(rightLaw());
             call("law");
         }
-        int calls = 150 + r.nextInt(150);
-        for (int i = 0; i < calls && agree; i++) {
+        int steps = 150 + r.nextInt(150);
+        for (int i = 0; agree && i < steps && calls < MOST_CALLS - LONGEST_STEP; i++) {
             step();
         }
         if (agree) {
@@ -77,6 +82,7 @@ public final class ModelTest {
     }
 
     private Object call(String name, Object... args) {
+        calls++;
         Object got = answer(x, name, args);
         Object want = answer(m, name, args);
         StringBuilder line = new StringBuilder(name).append('(');
@@ -99,6 +105,7 @@ public final class ModelTest {
 
     private void bytes(int... bytes) {
         Check.feed(x, bytes);
+        calls += 2 + Check.fives(bytes).length;
         m.end(0);
         for (int[] n : Check.fives(bytes)) {
             m.feed(n[0], n[1], n[2], n[3], n[4]);
@@ -221,7 +228,7 @@ public final class ModelTest {
             bytes[i + 1] = r.nextInt(30) == 0 ? 21 : rows > 10 ? i / 2 % 21 : r.nextInt(21) / (1 + r.nextInt(4));
         }
         bytes(bytes);
-        told.add(java.util.Arrays.toString(bytes));
+        told.add(Arrays.toString(bytes));
         call(r.nextBoolean() ? "whoLit" : "ask");
     }
 
@@ -234,7 +241,7 @@ public final class ModelTest {
             bytes[i + 2] = r.nextInt(30) == 0 ? 2 : r.nextInt(2);
         }
         bytes(bytes);
-        told.add(java.util.Arrays.toString(bytes));
+        told.add(Arrays.toString(bytes));
         call("learnt");
     }
 
@@ -367,38 +374,44 @@ public final class ModelTest {
         return r.nextInt(4) == 0 ? part + "+" + sum() : part;
     }
 
-    /** All that can be seen of the street. */
+    /** As much of all that can be seen of the street as the calls that are left allow. */
     private void dump() {
+        List<Object[]> all = new ArrayList<>();
         for (int p = 0; p < m.count(0); p++) {
             for (int what = 0; what < 8; what++) {
-                call("pane", p, what);
+                all.add(new Object[] {"pane", p, what});
             }
             for (int q = 0; q < m.count(0); q++) {
-                call("far", p, q);
-                call("closed", p, q);
-                call("isOpen", p, q);
+                all.add(new Object[] {"far", p, q});
+                all.add(new Object[] {"closed", p, q});
+                all.add(new Object[] {"isOpen", p, q});
             }
-            call("led", p, true);
-            call("led", p, false);
+            all.add(new Object[] {"led", p, true});
+            all.add(new Object[] {"led", p, false});
         }
         for (int w = 0; w < m.count(1); w++) {
             for (int what = 0; what < 7; what++) {
-                call("walker", w, what);
+                all.add(new Object[] {"walker", w, what});
             }
-            call("ring", w);
-            call("pairs", w);
+            all.add(new Object[] {"ring", w});
+            all.add(new Object[] {"pairs", w});
             for (int p = 0; p < m.count(0); p++) {
-                call("will", w, p);
-                call("lights", w, p);
+                all.add(new Object[] {"will", w, p});
+                all.add(new Object[] {"lights", w, p});
             }
         }
-        for (int ago = 0; ago < 61; ago++) {
+        for (int ago = 0; ago <= m.count(11); ago++) {
             for (int what = 0; what < 5; what++) {
-                call("log", ago, what);
+                all.add(new Object[] {"log", ago, what});
             }
         }
         for (int what = 0; what < 14; what++) {
-            call("count", what);
+            all.add(new Object[] {"count", what});
+        }
+        Collections.shuffle(all, r);
+        for (int i = 0; i < all.size() && calls < MOST_CALLS && agree; i++) {
+            Object[] one = all.get(i);
+            call((String) one[0], Arrays.copyOfRange(one, 1, one.length));
         }
     }
 }

@@ -107,7 +107,8 @@ public final class PromiseEdgeTest {
     }
 
     private static void feed() {
-        sentence("2", "Twenty bytes come behind the TAPE, of each number the highest first: how many it has; NONE, and none come, if it would "
+        sentence("2", "Twenty bytes come behind the TAPE, of each number the highest first: how many it has; NONE, and "
+            + "none come, if it would "
             + "have more than 400.");
         PaneStreet x = new PaneStreet();
         for (int bytes = 20; bytes <= 400; bytes += 20) {
@@ -237,9 +238,11 @@ public final class PromiseEdgeTest {
     }
 
     private static void pane() {
-        sentence("7", "Of a PANE what 0 OIL, 1 1 if BURNING, 2 the OWNER (NONE), 3 DARK, 4 CAN, as bits, 5 WHEN (NONE), 6 WHY, as bits (0, if it is "
+        sentence("7", "Of a PANE what 0 OIL, 1 1 if BURNING, 2 the OWNER (NONE), 3 DARK, 4 CAN, as bits, 5 WHEN (NONE), 6 "
+            + "WHY, as bits (0, if it is "
             + "BURNING), 7 LASTS.");
-        PaneStreet x = Check.streetOf("pane oil 6 lit;pane oil 7;walker at 0 taper 0 owns 1;walker at 0 taper 2 heads 1;way 0 1;fog 100",
+        PaneStreet x = Check.streetOf("pane oil 6 lit;pane oil 7;walker at 0 taper 0 owns 1;walker at 0 taper 2 heads 1;"
+            + "way 0 1;fog 100",
             "pass if dark<3");
         x.hours(2);
         int[] first = {4, 1, -1, 0, 0, 0, 0, 4};
@@ -367,7 +370,8 @@ public final class PromiseEdgeTest {
             due("taper then", Check.streetOf("pane oil 1;walker at 0 taper " + taper).strike(0), taper - 1);
         }
         sentence("15", "IllegalStateException: TAPER is 0, the LAMP is BURNING, is his own, or has no OIL.");
-        PaneStreet x = Check.streetOf("pane oil 1;pane;walker at 0 taper 0;walker at 0 taper 1;walker at 0 taper 1 owns 0;walker at 1 taper 1");
+        PaneStreet x = Check.streetOf("pane oil 1;pane;walker at 0 taper 0;walker at 0 taper 1;walker at 0 taper 1 owns 0;"
+            + "walker at 1 taper 1");
         Check.throwing("taper is 0", STATE, () -> x.strike(0));
         Check.throwing("his own", STATE, () -> x.strike(2));
         due("none of these", x.strike(1), 0);
@@ -392,7 +396,8 @@ public final class PromiseEdgeTest {
             due("oil of it", Check.streetOf("pane oil " + oil + " lit;walker at 0 taper 0 owns 0").snuff(0), oil);
         }
         sentence("16", "IllegalStateException: it is not BURNING, or has no OWNER.");
-        PaneStreet x = Check.streetOf(lines("pane", 7) + ";pane lit;pane lit;walker at 0 taper 0 owns 0;walker at 0 taper 0 owns 8");
+        PaneStreet x = Check.streetOf(lines("pane", 7) + ";pane lit;pane lit;walker at 0 taper 0 owns 0;walker at 0 taper "
+            + "0 owns 8");
         Check.throwing("not burning, owned", STATE, () -> x.snuff(0));
         Check.throwing("not burning, without an owner", STATE, () -> x.snuff(1));
         Check.throwing("burning, without an owner", STATE, () -> x.snuff(7));
@@ -724,7 +729,8 @@ public final class PromiseEdgeTest {
         x.strike(5);
         due("one of the last", x.led(8, false) + " " + x.led(8, true), "1 0");
 
-        sentence("50", "THE LOG so many ago (0 the latest) what 0 NIGHT, 1 HOUR, 2 0 to 3, 3 the PANE, 4 the WALKER (NONE); - 2 without.");
+        sentence("50", "THE LOG so many ago (0 the latest) what 0 NIGHT, 1 HOUR, 2 0 to 3, 3 the PANE, 4 the WALKER "
+            + "(NONE); - 2 without.");
         int[] row = {0, 0, 1, 8, 5};
         for (int what = 0; what <= 4; what++) {
             due("what " + what, x.log(0, what), row[what]);
@@ -793,8 +799,10 @@ public final class PromiseEdgeTest {
     }
 
     private static void count() {
-        sentence("55", "0 PANES, 1 WALKERS, 2 texts of THE STREET, 3 LINES of THE LAW (NONE without one), 4 HOUR, 5 NIGHT, 6 FOG, 7 1 if there is "
-            + "MIST, 8 OIL of all together, 9 LIT of all together, 10 WAYS (each once), 11 rows of THE LOG, 12 acts that can be UNDONE.");
+        sentence("55", "0 PANES, 1 WALKERS, 2 texts of THE STREET, 3 LINES of THE LAW (NONE without one), 4 HOUR, 5 "
+            + "NIGHT, 6 FOG, 7 1 if there is "
+            + "MIST, 8 OIL of all together, 9 LIT of all together, 10 WAYS (each once), 11 rows of THE LOG, 12 acts that "
+            + "can be UNDONE.");
         PaneStreet x = fullStreet();
         int[] first = {9, 6, 3, -1, 0, 0, 0, 0, 180, 0, 9, 0, 0};
         for (int what = 0; what <= 12; what++) {

@@ -295,7 +295,8 @@ public final class PromiseTest {
         PaneStreet x = new PaneStreet();
         due("six deep", law(x, "pass if ((((((owned))))))and not not not not not not owned or not(not(not(not 1>2))and 3<4)"), "throws IllegalArgumentException");
         due("seven deep at last", x.fault(), 8 + 66);
-        due("six deep, again and again", law(x, "pass if ((((((owned))))))and not not not not not not owned or not(not(not(owned)))"), 1);
+        due("six deep, again and again", law(x, "pass if ((((((owned))))))and not not not not not not owned or "
+            + "not(not(not(owned)))"), 1);
         StringBuilder longest = new StringBuilder("pass if 1");
         while (longest.length() < 396) {
             longest.append("+1");
@@ -588,7 +589,8 @@ public final class PromiseTest {
         due("acts", x.count(12), 3);
 
         Check.begin("15 strike");
-        PaneStreet s = Check.streetOf("pane oil 1;pane;walker at 0 taper 1 owns 1 heads 1;walker at 1 taper 2;walker at 1 taper 0 owns 0;likes 2 0 9;hour 5;night 3", "pass;cold 20");
+        PaneStreet s = Check.streetOf("pane oil 1;pane;walker at 0 taper 1 owns 1 heads 1;walker at 1 taper 2;walker at 1 "
+            + "taper 0 owns 0;likes 2 0 9;hour 5;night 3", "pass;cold 20");
         due("he lights it for all that", s.strike(0), 0);
         due("burning", s.pane(0, 1), 1);
         due("his heads stay", s.walker(0, 2), 1);
@@ -1002,7 +1004,8 @@ public final class PromiseTest {
         Check.begin("44 crowd");
         due("where three are", x.crowd(), 1);
         due("of several the least", two.crowd(), 0);
-        due("the first of all counts", Check.streetOf("pane;pane;walker at 1 taper 0;walker at 1 taper 0;walker at 0 taper 0").crowd(), 1);
+        due("the first of all counts", Check.streetOf("pane;pane;walker at 1 taper 0;walker at 1 taper 0;walker at 0 "
+            + "taper 0").crowd(), 1);
         due("none without walkers", g.crowd(), -1);
         Check.begin("45 alike");
         due("0 and 3", x.alike(), 1);

@@ -106,7 +106,8 @@ public final class QuestionEdgeTest {
         due("the longest of two", Check.streetOf("pane oil 3 lit;pane oil 5 lit").out(), 5);
         due("the first of some", Check.streetOf("pane oil 3 lit;pane;walker at 1 taper 1", "pass if dark<5").out(), 3);
         due("none between", Check.streetOf("pane oil 3 lit;pane oil 4;walker at 1 taper 1", "pass if dark<2").out(), 6);
-        due("he goes on without mist, and lights another one", Check.streetOf("pane oil 3 lit;pane;walker at 0 taper 1 heads 1;way 0 1;"
+        due("he goes on without mist, and lights another one", Check.streetOf("pane oil 3 lit;pane;walker at 0 taper 1 "
+            + "heads 1;way 0 1;"
             + "fog 100").out(), 20);
         due("lit as the other one burns out", Check.streetOf("pane oil 3 lit;pane oil 4;walker at 1 taper 1", "pass if dark<3").out(), 3);
     }
@@ -191,7 +192,8 @@ public final class QuestionEdgeTest {
     }
 
     private static void nextOfRounds() {
-        sentence("25", "NEXT: the first of these in the first such order (by the numbers of the PANES: by the first unlike one, the "
+        sentence("25", "NEXT: the first of these in the first such order (by the numbers of the PANES: by the first "
+            + "unlike one, the "
             + "lesser); none without.");
         PaneStreet x = lineOfNine("walker at 3 taper 0");
         due("none told", round(x, 0, true), -1);
@@ -233,7 +235,8 @@ public final class QuestionEdgeTest {
     }
 
     private static void beats() {
-        sentence("26", "BEATS: sets of PANES at which WALKERS might stand so that each PANE is no farther than 1 WAY from one of these: "
+        sentence("26", "BEATS: sets of PANES at which WALKERS might stand so that each PANE is no farther than 1 WAY from "
+            + "one of these: "
             + "the fewest: of several the least as bits (0 without PANES).");
         due("without panes", new PaneStreet().beats(), 0);
         due("one", Check.streetOf("pane").beats(), 1);
@@ -281,7 +284,8 @@ public final class QuestionEdgeTest {
     }
 
     private static void closed() {
-        sentence("29", "CLOSED of two PANES: the fewest WAYS to be closed so that there is no FAR; none of one PANE; 0, if there is none.");
+        sentence("29", "CLOSED of two PANES: the fewest WAYS to be closed so that there is no FAR; none of one PANE; 0, "
+            + "if there is none.");
         PaneStreet x = Check.streetOf(lines("pane", 9));
         due("one pane", x.closed(0, 0), -1);
         due("the last pane", x.closed(8, 8), -1);
@@ -300,9 +304,11 @@ public final class QuestionEdgeTest {
     }
 
     private static void why() {
-        sentence("7", "WHY of a PANE that is not BURNING: the WALKERS whose LIKES of its OWNER, told as 9, would let them LIGHT it, if "
+        sentence("7", "WHY of a PANE that is not BURNING: the WALKERS whose LIKES of its OWNER, told as 9, would let them "
+            + "LIGHT it, if "
             + "they were there (those who CAN now, too), as bits; 0 without an OWNER.");
-        PaneStreet x = Check.streetOf("pane;pane;walker at 1 taper 1 owns 0;walker at 1 taper 1;walker at 1 taper 0;walker at 1 taper 99;"
+        PaneStreet x = Check.streetOf("pane;pane;walker at 1 taper 1 owns 0;walker at 1 taper 1;walker at 1 taper 0;"
+            + "walker at 1 taper 99;"
             + "likes 1 0 0;likes 3 0 8");
         due("but for the owner, and for him who has no taper", x.pane(0, 6), 0b1010);
         due("without an owner", x.pane(1, 6), 0);
@@ -338,14 +344,16 @@ public final class QuestionEdgeTest {
     }
 
     private static void madeUp() {
-        sentence("30", "MADE UP: the fewest pairs (LIKES of a WALKER of an OWNER) to be told as 9 (0 of them, if none is needed) so that "
+        sentence("30", "MADE UP: the fewest pairs (LIKES of a WALKER of an OWNER) to be told as 9 (0 of them, if none is "
+            + "needed) so that "
             + "each PANE with an OWNER that is not BURNING has somebody who CAN then; none, if no pairs do.");
         due("without panes", new PaneStreet().madeUp(), 0);
         due("without owners", Check.streetOf("pane;walker at 0 taper 0").madeUp(), 0);
         due("an owner alone", Check.streetOf("pane;walker at 0 taper 1 owns 0").madeUp(), -1);
         due("an owner alone, burning", Check.streetOf("pane lit;walker at 0 taper 1 owns 0").madeUp(), 0);
         PaneStreet x = Check.streetOf(lines("pane", 7));
-        Check.street(x, "walker at 6 taper 1 owns 0;walker at 6 taper 1 owns 1;walker at 6 taper 1 owns 2;walker at 6 taper 1 owns 3;"
+        Check.street(x, "walker at 6 taper 1 owns 0;walker at 6 taper 1 owns 1;walker at 6 taper 1 owns 2;walker at 6 "
+            + "taper 1 owns 3;"
             + "walker at 6 taper 1 owns 4;walker at 6 taper 1 owns 5");
         due("none is needed", x.madeUp(), 0);
         for (int panes = 1; panes <= 6; panes++) {
@@ -382,7 +390,8 @@ public final class QuestionEdgeTest {
     }
 
     private static void whoLit() {
-        sentence("31", "WHO LIT: told are rows: a PANE and how many HOURS ago it was lit (0 to 20), all by one WALKER, who makes one step by "
+        sentence("31", "WHO LIT: told are rows: a PANE and how many HOURS ago it was lit (0 to 20), all by one WALKER, "
+            + "who makes one step by "
             + "a WAY or stays each HOUR:");
         PaneStreet x = lineOfNine("");
         due("0", whoLit(x, 0, 0), 0b1);
@@ -399,7 +408,8 @@ public final class QuestionEdgeTest {
         due("pane 9", whoLit(x, 9, 0), REFUSED);
         due("pane 255", whoLit(x, 0, 0, 255, 0), REFUSED);
 
-        sentence("31", "PLACES where he may be now: PANES to which there is such a walk (begun anywhere) that is AT each told PANE so many "
+        sentence("31", "PLACES where he may be now: PANES to which there is such a walk (begun anywhere) that is AT each "
+            + "told PANE so many "
             + "HOURS ago (of all walks; rows of like HOURS with unlike PANES: none), as bits; none told: all PANES.");
         due("none told", whoLit(x), 0x1ff);
         due("none told, without panes", whoLit(new PaneStreet()), 0);
@@ -441,7 +451,8 @@ public final class QuestionEdgeTest {
     }
 
     private static void ask() {
-        sentence("32", "ASK: the PANE (of all) for which those PLACES are parted, by FAR from it (none is one part, too), so that the "
+        sentence("32", "ASK: the PANE (of all) for which those PLACES are parted, by FAR from it (none is one part, too), "
+            + "so that the "
             + "greatest part is the least (of several the least; none with fewer than two).");
         PaneStreet x = lineOfNine("");
         due("nine places", ask(x), 0);
@@ -470,8 +481,10 @@ public final class QuestionEdgeTest {
     }
 
     private static void turn() {
-        sentence("8", "TURN of a WALKER: of PANES of other OWNERS the one that he would LIGHT now, whose OWNER would LIGHT a PANE of his, if "
-            + "LIKES of that one were 1 more (9 at most), of the least FAR from where he is (there must be one; of several the least "
+        sentence("8", "TURN of a WALKER: of PANES of other OWNERS the one that he would LIGHT now, whose OWNER would "
+            + "LIGHT a PANE of his, if "
+            + "LIKES of that one were 1 more (9 at most), of the least FAR from where he is (there must be one; of "
+            + "several the least "
             + "PANE; none without).");
         String two = "pane;pane;walker at 0 taper 1 owns 0;walker at 0 taper 1 owns 1;way 0 1";
         PaneStreet x = Check.streetOf(two);
@@ -509,7 +522,8 @@ public final class QuestionEdgeTest {
         due("at the far end", nine.walker(0, 5), 0);
         nine.like(0, 1, 0);
         due("none", nine.walker(0, 5), -1);
-        PaneStreet both = Check.streetOf("pane;pane;pane;walker at 1 taper 1 owns 1;walker at 0 taper 1 owns 2;walker at 0 taper 1 owns 0;"
+        PaneStreet both = Check.streetOf("pane;pane;pane;walker at 1 taper 1 owns 1;walker at 0 taper 1 owns 2;walker at "
+            + "0 taper 1 owns 0;"
             + "way 1 0;way 1 2");
         due("of several the least", both.walker(0, 5), 0);
     }
@@ -532,7 +546,8 @@ public final class QuestionEdgeTest {
     }
 
     private static void favours() {
-        sentence("33", "FAVOURS: WALKERS pointing each to the OWNER of his TURN (or to nobody): RING of one: whether by pointing on and on "
+        sentence("33", "FAVOURS: WALKERS pointing each to the OWNER of his TURN (or to nobody): RING of one: whether by "
+            + "pointing on and on "
             + "one comes back to him.");
         due("one alone points to nobody", rings(standing(0)), "0");
         due("two to one another", rings(standing(1, 0)), "11");

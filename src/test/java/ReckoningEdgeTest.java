@@ -1,3 +1,5 @@
+import java.util.Arrays;
+
 /** The edges of what is reckoned: SIDES, PAIRS, LEARNT, SHARE, RESTS, ODDS, sums, trials, spans and LED. */
 public final class ReckoningEdgeTest {
     private static final String REFUSED = "throws IllegalArgumentException";
@@ -41,8 +43,10 @@ public final class ReckoningEdgeTest {
     }
 
     private static void sides() {
-        sentence("34", "SIDES: WALKERS put on two sides so that LIKES (of both ways) of pairs on one side together are the most, both sides "
-            + "having somebody: those of the second side (0 is of the first), of several the least as bits; none with fewer than two.");
+        sentence("34", "SIDES: WALKERS put on two sides so that LIKES (of both ways) of pairs on one side together are "
+            + "the most, both sides "
+            + "having somebody: those of the second side (0 is of the first), of several the least as bits; none with "
+            + "fewer than two.");
         due("none", walkersAtOne(0).sides(), -1);
         due("one", walkersAtOne(1).sides(), -1);
         due("two", walkersAtOne(2).sides(), 0b10);
@@ -75,8 +79,10 @@ public final class ReckoningEdgeTest {
     }
 
     private static void pairs() {
-        sentence("35", "PAIRS: WALKERS two by two, each in one such pair at most, so that LIKES of both of one another are together the most, "
-            + "and only such as have a FAR: how much; with whom one is in the first such way (one by one, none being the least, then "
+        sentence("35", "PAIRS: WALKERS two by two, each in one such pair at most, so that LIKES of both of one another "
+            + "are together the most, "
+            + "and only such as have a FAR: how much; with whom one is in the first such way (one by one, none being the "
+            + "least, then "
             + "the others); none.");
         int[] most = {0, 0, 10, 10, 20, 20, 30};
         for (int walkers = 0; walkers <= 6; walkers++) {
@@ -130,7 +136,8 @@ public final class ReckoningEdgeTest {
     }
 
     private static void learnt() {
-        sentence("36", "LEARNT: told are rows: a WALKER, a PANE with an OWNER, whether he lit it (1) or not (0): LIKES of him of that OWNER are "
+        sentence("36", "LEARNT: told are rows: a WALKER, a PANE with an OWNER, whether he lit it (1) or not (0): LIKES of "
+            + "him of that OWNER are "
             + "at least or below some L (1 to 9, the same L for all; by LIKES as they are now): L that fit, as bits 1 to 9.");
         PaneStreet x = Check.streetOf("pane;pane;walker at 0 taper 0;walker at 0 taper 0 owns 0;walker at 0 taper 0");
         due("none told", learnt(x), 0x3fe);
@@ -167,10 +174,11 @@ public final class ReckoningEdgeTest {
         last[38] = 0;
         due("the 13th row counts", learnt(x, last), 0);
         for (int bytes : new int[] {1, 2, 4, 37, 38, 40, 41, 400}) {
-            due("bytes: " + bytes, learnt(x, java.util.Arrays.copyOf(rowsOf(14), bytes)), REFUSED);
+            due("bytes: " + bytes, learnt(x, Arrays.copyOf(rowsOf(14), bytes)), REFUSED);
         }
 
-        sentence("36", "IllegalArgumentException: the TAPE is not that (none may be told; a PANE without an OWNER, or his own, is none).");
+        sentence("36", "IllegalArgumentException: the TAPE is not that (none may be told; a PANE without an OWNER, or his "
+            + "own, is none).");
         due("without an owner", learnt(x, 0, 1, 1), REFUSED);
         due("his own", learnt(x, 1, 0, 1), REFUSED);
         due("the last walker", learnt(x, 2, 0, 1), 0b1110);
@@ -206,7 +214,8 @@ public final class ReckoningEdgeTest {
     }
 
     private static void share() {
-        sentence("37", "SHARE of N (0 to 999): N OIL is given, one by one, each to the LAMP that has the least by then (of several the least), "
+        sentence("37", "SHARE of N (0 to 999): N OIL is given, one by one, each to the LAMP that has the least by then "
+            + "(of several the least), "
             + "none above 99 (what no LAMP can take is left): what a PANE has then.");
         PaneStreet x = Check.streetOf("pane oil 3;pane oil 1;pane oil 3");
         String[] want = {"3 1 3", "3 2 3", "3 3 3", "4 3 3", "4 4 3", "4 4 4", "5 4 4"};
@@ -230,8 +239,10 @@ public final class ReckoningEdgeTest {
     }
 
     private static void rests() {
-        sentence("38", "RESTS of two WALKERS: each lights the other one's lamp (0) or goes by (1), unseen: who goes by has 4, if the other one "
-            + "lights, else 0; who lights has his own LIKES of the other one less 3, if the other one lights, too, else 0 less 2: choices "
+        sentence("38", "RESTS of two WALKERS: each lights the other one's lamp (0) or goes by (1), unseen: who goes by "
+            + "has 4, if the other one "
+            + "lights, else 0; who lights has his own LIKES of the other one less 3, if the other one lights, too, else 0 "
+            + "less 2: choices "
             + "(2 times the first one's and the other one's) from which neither would have more by his other one: as bits.");
         PaneStreet x = walkersAtOne(2);
         for (int one = 0; one <= 9; one++) {
@@ -245,7 +256,8 @@ public final class ReckoningEdgeTest {
     }
 
     private static void odds() {
-        sentence("39", "ODDS of N HOURS (0 to 6) and K (0 to 6): that there is MIST in K of them at least, each alike, in ten thousandths, "
+        sentence("39", "ODDS of N HOURS (0 to 6) and K (0 to 6): that there is MIST in K of them at least, each alike, in "
+            + "ten thousandths, "
             + "rounded down.");
         PaneStreet none = Check.streetOf("fog 0");
         PaneStreet all = Check.streetOf("fog 100");
@@ -398,7 +410,8 @@ public final class ReckoningEdgeTest {
     }
 
     private static void trial() {
-        sentence("47", "TRIAL of N HOURS (0 to 60) from now (draws, too; nothing stays): PANES BURNING then, as bits; OIL of all together.");
+        sentence("47", "TRIAL of N HOURS (0 to 60) from now (draws, too; nothing stays): PANES BURNING then, as bits; OIL "
+            + "of all together.");
         for (int fog : new int[] {0, 1, 50, 99, 100}) {
             for (int seed : new int[] {1, 2, -7}) {
                 PaneStreet x = counter(fog);
@@ -490,7 +503,8 @@ public final class ReckoningEdgeTest {
 
     private static void led() {
         sentence("49", "LED: how many rows of THE LOG are of a PANE; the NIGHT of the latest (none).");
-        PaneStreet x = Check.streetOf("pane oil 99;pane oil 99;walker at 0 taper 99 owns 1;walker at 1 taper 99 owns 0;hour 23;night 5", "pass");
+        PaneStreet x = Check.streetOf("pane oil 99;pane oil 99;walker at 0 taper 99 owns 1;walker at 1 taper 99 owns 0;"
+            + "hour 23;night 5", "pass");
         due("no row", x.led(0, false) + " " + x.led(0, true), "0 -1");
         x.strike(0);
         due("one row", x.led(0, false) + " " + x.led(0, true), "1 5");

@@ -201,7 +201,8 @@ public final class TermsEdgeTest {
 
     private static void headsAndLit() {
         sentence("8, 14", "HEADS: a PANE to which he goes, or none (at first)");
-        PaneStreet x = Check.streetOf(lines("pane", 9) + ";walker at 4 taper 2 heads 0;walker at 4 taper 0 heads 8;walker at 4 taper 0");
+        PaneStreet x = Check.streetOf(lines("pane", 9) + ";walker at 4 taper 2 heads 0;walker at 4 taper 0 heads 8;walker "
+            + "at 4 taper 0");
         due("to the first one", x.walker(0, 2), 0);
         due("to the last one", x.walker(1, 2), 8);
         due("to none at first", x.walker(2, 2), PaneStreet.NONE);

@@ -8,7 +8,8 @@ public final class UndoneEdgeTest {
     private static final Class<NoSuchElementException> NO_ELEMENT = NoSuchElementException.class;
 
     /** Two panes with a way, a walker at each other's, and pane 2, which burns and is nobody's. */
-    private static final String TEXT = "pane oil 5;pane oil 7;pane oil 9 lit;walker at 1 taper 3 owns 0 heads 2;walker at 0 taper 2 owns 1;"
+    private static final String TEXT = "pane oil 5;pane oil 7;pane oil 9 lit;walker at 1 taper 3 owns 0 heads 2;walker at "
+        + "0 taper 2 owns 1;"
         + "way 0 1;way 1 2;likes 0 1 6;likes 1 0 8;fog 40;hour 22;night 7";
 
     private UndoneEdgeTest() {
@@ -53,7 +54,8 @@ public final class UndoneEdgeTest {
     }
 
     private static void eachActUndone() {
-        sentence("52", "UNDONE: the latest ACT not undone yet (12 are remembered; HOURS of one call are one): all is as ahead of it");
+        sentence("52", "UNDONE: the latest ACT not undone yet (12 are remembered; HOURS of one call are one): all is as "
+            + "ahead of it");
         PaneStreet x = known();
         undone("hours(1)", () -> x.hours(1), x);
         PaneStreet h = known();
@@ -200,7 +202,8 @@ public final class UndoneEdgeTest {
     }
 
     private static void theImage() {
-        sentence("53, 54", "THE IMAGE (one) of all may be kept, and gone back to (but for the TAPE, fault() and THE IMAGE itself).");
+        sentence("53, 54", "THE IMAGE (one) of all may be kept, and gone back to (but for the TAPE, fault() and THE IMAGE "
+            + "itself).");
         PaneStreet empty = new PaneStreet();
         due("none was kept", empty.back(), false);
         empty.image();
@@ -293,7 +296,8 @@ public final class UndoneEdgeTest {
     }
 
     private static void whatAThrowLeaves() {
-        sentence("13, 14, 15, 16, 17, 18, 19, 20, 25, 31, 32, 36", "a call that throws changes nothing but the TAPE, where it is used up, "
+        sentence("13, 14, 15, 16, 17, 18, 19, 20, 25, 31, 32, 36", "a call that throws changes nothing but the TAPE, "
+            + "where it is used up, "
             + "and fault(), where a text is read (also by one that is refused).");
         leaves("pane", NO_ELEMENT, false, x -> x.pane(0, 8));
         leaves("walker", NO_ELEMENT, false, x -> x.walker(0, 7));
@@ -367,7 +371,8 @@ public final class UndoneEdgeTest {
     }
 
     private static void none() {
-        sentence("9, 12, 13, 17, 18, 19, 20, 37, 38, 39, 46, 47, 48", "IllegalArgumentException: a number is none, or two are one.");
+        sentence("9, 12, 13, 17, 18, 19, 20, 37, 38, 39, 46, 47, 48", "IllegalArgumentException: a number is none, or two "
+            + "are one.");
         PaneStreet x = known();
         Check.throwing("a number", ARGUMENT, () -> x.hours(0));
         due("the next one", x.hours(1), 1);
