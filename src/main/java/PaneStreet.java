@@ -33,6 +33,8 @@ public final class PaneStreet {
     private static final int MOST_WALK_BYTES = 40;
     private static final int LONGEST_WALK = 20;
     private static final int MOST_LEARNT_BYTES = 39;
+    /** Above all numbers of steps, ways and places of which the least is looked for. */
+    private static final int MORE_THAN_ANY = 1000;
 
     private static final int LIT_IN_AN_HOUR = 0;
     private static final int LIT_BY_HAND = 1;
@@ -1598,7 +1600,7 @@ public final class PaneStreet {
         }
 
         private int fewestSteps(int left, int last) {
-            int fewest = Integer.MAX_VALUE;
+            int fewest = MORE_THAN_ANY;
             for (int pane = 0; pane < MOST_PANES; pane++) {
                 if (hasBit(left, pane)) {
                     fewest = Math.min(fewest, stepsBy(left, last, pane));
@@ -1652,7 +1654,7 @@ public final class PaneStreet {
             if (pane == other) {
                 return NONE;
             }
-            int fewest = Integer.MAX_VALUE;
+            int fewest = MORE_THAN_ANY;
             for (int side = 0; side < bit(street.panes); side++) {
                 if (hasBit(side, pane) && !hasBit(side, other)) {
                     fewest = Math.min(fewest, waysOutOf(street, side));
@@ -1702,7 +1704,7 @@ public final class PaneStreet {
                 return NONE;
             }
             int found = NONE;
-            int least = Integer.MAX_VALUE;
+            int least = MORE_THAN_ANY;
             for (int pane = 0; pane < street.panes; pane++) {
                 int greatest = greatestPart(street, places, pane);
                 if (greatest < least) {
@@ -1797,7 +1799,7 @@ public final class PaneStreet {
 
         int turnOf(Street street, Law law, int walker) {
             int found = NONE;
-            int nearest = Integer.MAX_VALUE;
+            int nearest = MORE_THAN_ANY;
             for (int pane = 0; pane < street.panes; pane++) {
                 int far = street.farOf(street.at.get(walker), pane);
                 if (far != NONE && far < nearest && isTrade(street, law, walker, pane)) {

@@ -5,11 +5,13 @@ import java.nio.file.Path;
 import java.util.regex.Matcher;
 import java.util.regex.Pattern;
 
-/** The document's words from 'Terms' to the last promise, with one blank wherever there are some. */
+/** The document's words, but for its face and what it does not promise, with one blank wherever there are some. */
 final class Document {
     static final int TERMS = 0;
     static final int PROMISES = 55;
-    private static final String[] PARTS = read();
+    private static final String WHOLE = read();
+    private static final String WHAT_IT_IS = even(between("## What it is", "## The public face"));
+    private static final String[] PARTS = parts();
 
     private Document() {
     }
@@ -29,23 +31,29 @@ final class Document {
         return numbers;
     }
 
-    /** Whether these words stand in one of these promises, or in the Terms. */
+    /** Whether these words stand in one of these promises, in the Terms, or in 'What it is'. */
     static boolean says(String promises, String words) {
-        boolean found = part(TERMS).contains(words);
+        boolean found = part(TERMS).contains(words) || WHAT_IT_IS.contains(words);
         for (int promise : numbersOf(promises)) {
             found |= part(promise).contains(words);
         }
         return found;
     }
 
-    private static String[] read() {
-        String text;
+    private static String read() {
         try {
-            text = Files.readString(Path.of("../shared/DOC.md"));
+            return Files.readString(Path.of("../shared/DOC.md"));
         } catch (IOException e) {
             throw new UncheckedIOException(e);
         }
-        text = text.substring(text.indexOf("## Terms") + 8, text.indexOf("## Not promised"));
+    }
+
+    private static String between(String head, String next) {
+        return WHOLE.substring(WHOLE.indexOf(head) + head.length(), WHOLE.indexOf(next));
+    }
+
+    private static String[] parts() {
+        String text = between("## Terms", "## Not promised");
         String[] parts = new String[PROMISES + 1];
         Matcher head = Pattern.compile("## Promise (\\d+): .*\\s+`[^`]*`:").matcher(text);
         int part = TERMS;

@@ -13,17 +13,11 @@ import java.util.regex.Matcher;
 import java.util.regex.Pattern;
 import java.util.stream.Collectors;
 
-/** The public face as the document tells it, and rules of LANGUAGE.md that can be seen from outside. */
+/** The public face as the document tells it, and that nothing else is seen of the class. */
 public final class FaceTest {
-    private static final Path SOURCE = Path.of("src/main/java/PaneStreet.java");
     private static final Path DOCUMENT = Path.of("../shared/DOC.md");
     private static final Pattern METHOD =
         Pattern.compile("^    public (int|boolean|void) (\\w+)\\(([^)]*)\\)(?: throws ([^;]*))?;", Pattern.MULTILINE);
-
-    private static final Pattern MACHINES = Pattern.compile("catch \\([^)]*\\b(ArrayIndexOutOfBounds|StringIndexOutOfBounds|IndexOutOfBounds"
-        + "|NullPointer|Arithmetic|ClassCast|NegativeArraySize|ArrayStore|Runtime)?(Exception|Throwable|Error)\\b");
-    private static final Set<String> LIBRARY = Set.of("java.util.Arrays", "java.util.ArrayList", "java.util.List", "java.util.Iterator",
-        "java.util.NoSuchElementException");
 
     private FaceTest() {
     }
@@ -31,7 +25,6 @@ public final class FaceTest {
     public static void main(String[] args) throws IOException, ReflectiveOperationException {
         faceOfTheDocument();
         nothingElseIsSeen();
-        sourceKeepsToTheRules();
         Check.end();
     }
 
@@ -107,33 +100,5 @@ public final class FaceTest {
 
     private static void isPrivate(Member member) {
         Check.due(member.getName() + " is private", Modifier.isPrivate(member.getModifiers()), true);
-    }
-
-    private static void sourceKeepsToTheRules() throws IOException {
-        Check.begin("the source");
-        String source = Files.readString(SOURCE);
-        Check.due("signs 1 to 127", source.chars().allMatch(c -> c > 0 && c < 128), true);
-        String code = source.replaceAll("(?s)/\\*.*?\\*/", "").replaceAll("//[^\n]*", "").replaceAll("\"[^\"]*\"", "\"\"");
-        for (String word : new String[] {"finally", "synchronized", "assert", "package", "::", "System.out", "Object", "ordinal",
-            "Random", "nanoTime", "currentTimeMillis", "Thread", "getMessage"}) {
-            boolean stands = Pattern.compile("(?<!\\w)" + Pattern.quote(word) + "(?!\\w)").matcher(code).find();
-            Check.due("no " + word, stands, false);
-        }
-        Check.due("nothing that the machine throws is caught", MACHINES.matcher(code).find(), false);
-        Matcher imports = Pattern.compile("import ([\\w.]+);").matcher(code);
-        while (imports.find()) {
-            Check.due("may be imported: " + imports.group(1), LIBRARY.contains(imports.group(1)), true);
-        }
-        int longest = 0;
-        int begun = 0;
-        String[] lines = source.split("\n");
-        for (int i = 0; i < lines.length; i++) {
-            if (lines[i].matches("    (    )?\\S.*\\).* \\{") && !lines[i].contains(" class ")) {
-                begun = i;
-            } else if (lines[i].matches("    (    )?\\}")) {
-                longest = Math.max(longest, i - begun);
-            }
-        }
-        Check.due("methods are short (" + longest + ")", longest <= 60, true);
     }
 }

@@ -1,4 +1,7 @@
-/** The edges of what there is: panes, walkers and their numbers, the hour, the night and the fog. */
+/**
+ * What holds for all of the street, and the edges of what there is: panes, walkers and their numbers, the hour,
+ * the night and the fog.
+ */
 public final class TermsEdgeTest {
     private static final Class<IllegalArgumentException> ARGUMENT = IllegalArgumentException.class;
     private static final String REFUSED = "throws IllegalArgumentException";
@@ -7,6 +10,8 @@ public final class TermsEdgeTest {
     }
 
     public static void main(String[] args) {
+        noneByItsOwner();
+        atMost512Calls();
         panes();
         oilOfALamp();
         darkness();
@@ -29,6 +34,44 @@ public final class TermsEdgeTest {
 
     private static String lines(String line, int times) {
         return (line + ";").repeat(times - 1) + line;
+    }
+
+    /** Six walkers, each where his own lamp is, who would light all others; three lamps are nobody's. */
+    private static void noneByItsOwner() {
+        sentence("7, 8, 11, 13, 15, 46, 47", "A harbour street in which no lamp may be lit by its owner");
+        PaneStreet x = new PaneStreet();
+        StringBuilder walkers = new StringBuilder();
+        for (int walker = 0; walker < 6; walker++) {
+            walkers.append(";walker at ").append(walker).append(" taper 9 owns ").append(walker);
+        }
+        due("panes", Check.street(x, lines("pane", 9)), 1);
+        due("walkers", Check.street(x, walkers.substring(1)), 2);
+        due("all of them are kind", Check.law(x, "kind 20"), 1);
+        for (int walker = 0; walker < 6; walker++) {
+            int one = walker;
+            due("he would not light his own", x.lights(one, one), false);
+            due("all others would", x.pane(one, 4), 0b111111 & ~(1 << one));
+            due("it stays dark by hours ahead", x.pane(one, 5), -1);
+            Check.throwing("by hand", IllegalStateException.class, () -> x.strike(one));
+        }
+        due("nobody's by all", x.pane(8, 4), 0b111111);
+        due("in a trial", x.trial(60, false), 0);
+        due("in sixty hours", x.hours(60), 0);
+        due("nobody lit one", x.count(9), 0);
+        x.way(0, 6, true);
+        x.heads(0, 6);
+        due("one who goes to nobody's", x.hours(1), 1);
+        due("lights it", x.bright(), 1 << 6);
+    }
+
+    private static void atMost512Calls() {
+        sentence("13, 52, 55", "An object is used for at most 512 calls after it has been made;");
+        PaneStreet x = new PaneStreet();
+        for (int calls = 0; calls < 510; calls++) {
+            x.hours(60);
+        }
+        due("the 511th", x.undo(), true);
+        due("the 512th", x.count(5), 509 * 60 / 24);
     }
 
     private static void panes() {
